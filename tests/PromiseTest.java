@@ -302,6 +302,14 @@ public final class PromiseTest {
         faultOf("modulus 1 11; let a 1 1/x;", 0, NONE);
         faultOf("let a 1 1/x; modulus 1 11;", 0, NONE);
         faultOf("let a 4 1/(x^4+x+1); modulus 4 11001;", 0, NONE);
+        faultOf("let a 4 " + repeat("(", 8) + "1/0" + repeat(")", 8) + ";", 7, 17);
+        FieldTower t = with("modulus 1 11; modulus 12 1000001010011; let a 12 x^12;");
+        due("a text whose moduli are others", read(t, "modulus 6 1100001; let a 6 x; let b 6 1/(a+x);"), 7);
+        due("modulus(1)", t.modulus(1), 3);
+        due("modulus(6)", t.modulus(6), 67);
+        due("modulus(12)", t.modulus(12), 4179);
+        due("let(0, 1)", t.let(0, 1), 83);
+        due("count(0)", t.count(0), 1);
     }
 
     private static void workedOut() {
@@ -318,6 +326,10 @@ public final class PromiseTest {
         due("let(1, 1)", u.let(1, 1), u.value(3, 8191, 2));
         due("let(2, 1)", u.let(2, 1), 0);
         due("let(3, 1)", u.let(3, 1), 1);
+        FieldTower s = with("let a 8 ((x+1)*x+1)*x; let b 8 (x*(x+(x*(x+1))^2)/x)+1; let c 8 1/(x/((x+1)/(x*x)));");
+        due("nested products", s.let(0, 1), 14);
+        due("nested sums", s.let(1, 1), 23);
+        due("nested quotients", s.both(8, s.let(2, 1), 8, 1), 3);
         FieldTower v = with("modulus 1 11; let o 1 x; let w 1 11; let p 6 o + x;");
         due("let(0, 1)", v.let(0, 1), 1);
         due("let(1, 1)", v.let(1, 1), 0);
@@ -397,6 +409,17 @@ public final class PromiseTest {
         }
         due("undo()", t.undo(), false);
         due("modulus(3)", t.modulus(3), 13);
+        FieldTower many = new FieldTower();
+        for (int i = 0; i < 33; i++) {
+            due("change", many.change(8 + i % 4, many.next(many.modulus(8 + i % 4))), true);
+        }
+        for (int i = 32; i >= 3; i--) {
+            int n = 8 + i % 4;
+            int former = many.modulus(n);
+            due("undo()", many.undo(), true);
+            due("the next of modulus(" + n + ")", many.next(many.modulus(n)), former);
+        }
+        due("undo()", many.undo(), false);
         t.change(5, 41);
         t.change(5, 4);
         due("a change that was none", t.count(2), 1);
@@ -541,10 +564,22 @@ public final class PromiseTest {
         due("what 11", t.element(3, 0, 11), NONE);
         due("what -1", t.element(3, 0, -1), NONE);
         due("a -1", t.element(3, -1, 0), NONE);
+        t.solve(4, 1, 1, 0);
+        due("COORDINATES behind another call", t.element(4, 1, 9), 15);
         t.change(8, 285);
         due("ORDER by another modulus", t.element(8, 2, 2), 255);
         due("LOGARITHM by another modulus", t.element(8, 2, 3), 1);
         due("COORDINATES by another modulus", t.element(8, t.field(8, 2), 9), 1);
+        for (int p = t.next(256); p < 512; p = t.next(p)) {
+            t.change(8, p);
+            FieldTower fresh = new FieldTower();
+            fresh.change(8, p);
+            for (int what = 2; what <= 10; what++) {
+                due("element(8, 77, " + what + ") by " + p, t.element(8, 77, what), fresh.element(8, 77, what));
+            }
+            due("NORMAL by " + p, t.element(8, t.field(8, 2), 8), 1);
+            dualByTraces(t, 8, t.field(8, 2));
+        }
     }
 
     private static void dualByTraces(FieldTower t, int n, int b) {
@@ -571,6 +606,15 @@ public final class PromiseTest {
             t.change(6, 97);
             t.change(12, 4179);
             t.change(3, 13);
+        }
+        for (int four = t.next(15); four < 32; four = t.next(four)) {
+            for (int six = t.next(63); six < 128; six = t.next(six)) {
+                t.change(4, four);
+                t.change(6, six);
+                due("2 over 4 and 6, " + four + ", " + six, t.raise(4, 12, t.raise(2, 4, 2)), t.raise(6, 12, t.raise(2, 6, 2)));
+                due("x of 4, " + four, t.value(12, four, t.raise(4, 12, 2)), 0);
+                due("x of 6, " + six, t.raise(6, 12, 2), t.element(12, t.raise(6, 12, 2), 5));
+            }
         }
         FieldTower u = new FieldTower();
         due("r(2, 4)", u.raise(2, 4, 2), 6);
@@ -599,6 +643,7 @@ public final class PromiseTest {
                 due("there and back", t.lower(pair[1], pair[0], t.raise(pair[0], pair[1], a)), a);
             }
         }
+        due("the first call", new FieldTower().lower(4, 2, 6), 2);
         due("none below", t.lower(12, 6, 2), -2);
         due("3 of 4", t.lower(4, 3, 1), -2);
         due("4 of 2", t.lower(2, 4, 1), -2);
@@ -612,6 +657,8 @@ public final class PromiseTest {
     private static void down() {
         promise = 17;
         FieldTower t = new FieldTower();
+        due("the first call", new FieldTower().down(12, 6, t.raise(6, 12, 2), true), t.both(6, 2, 2, 1));
+        due("NORM of 0 in the field 1", t.down(1, 1, 0, true), 0);
         due("TRACE", t.down(4, 2, 2, false), 1);
         due("NORM", t.down(4, 2, 2, true), 2);
         due("TRACE of 1, 3 times", t.down(3, 1, 1, false), 1);
@@ -796,6 +843,22 @@ public final class PromiseTest {
         due("a 4096", t.roots(12, 4096, 1, 0), NONE);
         due("n 0", t.roots(0, 0, 1, 0), NONE);
         due("field 1", t.roots(1, 1, 5, 1), 1);
+        due("k 1", t.roots(6, 45, 1, 1), 45);
+        int[] powers = {1, 3, 7, 9, 21, 63, 64, 5};
+        for (int k : powers) {
+            for (int a = 0; a < 64; a++) {
+                int many = 0;
+                int least = -2;
+                for (int y = 63; y >= 0; y--) {
+                    if (t.power(6, y, k) == a) {
+                        many++;
+                        least = y;
+                    }
+                }
+                due("roots(6, " + a + ", " + k + ", 0)", t.roots(6, a, k, 0), many);
+                due("roots(6, " + a + ", " + k + ", 1)", t.roots(6, a, k, 1), least);
+            }
+        }
     }
 
     private static void field() {
@@ -832,6 +895,7 @@ public final class PromiseTest {
         due("n 13", t.field(13, 5), NONE);
         t.change(8, 285);
         due("field(8, 0) by another modulus", t.field(8, 0), 2);
+        due("field(8, 2) by another modulus", t.element(8, t.field(8, 2), 8), 1);
     }
 
     private static void written() {
@@ -842,6 +906,7 @@ public final class PromiseTest {
         same(t, 4, 1, 25, "1");
         same(t, 4, 2, 25, "z");
         same(t, 4, 12, 23, "x^3+x^2");
+        same(t, 4, 3, 12, "m+1");
         same(t, 11, 1024, 1, "b^10");
         due("letter 26", t.written(4, 1, 26, 0), NONE);
         due("letter -1", t.written(4, 1, -1, 0), NONE);
@@ -868,7 +933,17 @@ public final class PromiseTest {
                 due("let(" + i + ", " + what + ")", t.let(i, what), want[i][what]);
             }
         }
+        FieldTower first = with("let a 12 (x+1)^1365;");
+        int lowered = first.let(0, 3);
+        due("DEGREE", first.let(0, 2), 2);
+        due("LOWERED by the first call", first.raise(2, 12, lowered), first.let(0, 1));
         due("i 4", t.let(4, 0), NONE);
+        for (int i = 0; i < 2; i++) {
+            read(t, "let a 2 x; let b 4 x; let c 6 x;");
+        }
+        read(t, "let a 2 x;");
+        due("i 0", t.let(0, 0), 2);
+        due("a name of the text ahead", t.let(1, 0), NONE);
         due("i -1", t.let(-1, 0), NONE);
         due("what 4", t.let(0, 4), NONE);
         due("what -1", t.let(0, -1), NONE);
