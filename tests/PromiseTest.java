@@ -1,13 +1,5 @@
-import java.nio.charset.StandardCharsets;
-
 /** For each promise: ordinary inputs, the edges that the document names, and wrong inputs. */
-public final class PromiseTest {
-    private static final int NONE = -1;
-    private static final int LOWEST = Integer.MIN_VALUE;
-    private static final int GREATEST = Integer.MAX_VALUE;
-    private static int wrong = 0;
-    private static int promise = 0;
-
+public final class PromiseTest extends Cases {
     public static void main(String[] args) {
         newObject();
         feed();
@@ -45,73 +37,11 @@ public final class PromiseTest {
         hold();
         restore();
         count();
-        System.out.println(wrong == 0 ? "all promises are kept" : wrong + " answers are not as due");
-        if (wrong != 0) {
-            System.exit(1);
-        }
-    }
-
-    private static void due(String call, long got, long want) {
-        if (got != want) {
-            wrong++;
-            System.out.println("promise " + promise + ": " + call + " answered " + got + ", due is " + want);
-        }
-    }
-
-    private static void due(String call, boolean got, boolean want) {
-        due(call, got ? 1 : 0, want ? 1 : 0);
-    }
-
-    private static void put(FieldTower t, String text) {
-        byte[] bytes = text.getBytes(StandardCharsets.ISO_8859_1);
-        int[] words = new int[5];
-        int filler = (20 - bytes.length % 20) % 20;
-        for (int i = 0; i < bytes.length + filler; i++) {
-            words[i % 20 / 4] = words[i % 20 / 4] << 8 | (i < bytes.length ? bytes[i] & 255 : 32);
-            if (i % 20 == 19) {
-                t.feed(words[0], words[1], words[2], words[3], words[4]);
-            }
-        }
-        t.back(filler);
-    }
-
-    private static int read(FieldTower t, String text) {
-        put(t, text);
-        return t.read();
-    }
-
-    private static FieldTower with(String text) {
-        FieldTower t = new FieldTower();
-        due("read of [" + text + "]", read(t, text), 0);
-        return t;
-    }
-
-    private static void faultOf(String text, int fault, int place) {
-        FieldTower t = with("modulus 3 1101; let keep 3 x;");
-        t.change(4, 25);
-        t.hold(1);
-        due("read of [" + text + "]", read(t, text), fault);
-        due("place of [" + text + "]", t.place(), place);
-        due("bytes after [" + text + "]", t.count(1), 0);
-        if (fault != 0) {
-            due("modulus(3) after [" + text + "]", t.modulus(3), 13);
-            due("modulus(4) after [" + text + "]", t.modulus(4), 25);
-            due("count(0) after [" + text + "]", t.count(0), 1);
-            due("let(0, 1) after [" + text + "]", t.let(0, 1), 2);
-            due("count(2) after [" + text + "]", t.count(2), 1);
-            due("count(3) after [" + text + "]", t.count(3), 1);
-        } else {
-            due("count(2) after [" + text + "]", t.count(2), 0);
-            due("count(3) after [" + text + "]", t.count(3), 0);
-        }
-    }
-
-    private static String repeat(String part, int times) {
-        return part.repeat(times);
+        end("all promises are kept");
     }
 
     private static void newObject() {
-        promise = 1;
+        promise(1);
         FieldTower t = new FieldTower();
         int[] least = {2, 7, 11, 19, 37, 67, 131, 283, 515, 1033, 2053, 4105};
         for (int n = 1; n <= 12; n++) {
@@ -128,7 +58,7 @@ public final class PromiseTest {
     }
 
     private static void feed() {
-        promise = 2;
+        promise(2);
         FieldTower t = new FieldTower();
         // "let a 4 x;" with blanks before, between and behind.
         due("feed", t.feed(0x0a0d0920, 0x6c657420, 0x61203420, 0x783b2020, 0x20202020), 20);
@@ -146,7 +76,7 @@ public final class PromiseTest {
     }
 
     private static void back() {
-        promise = 3;
+        promise(3);
         FieldTower t = new FieldTower();
         due("back(0)", t.back(0), 0);
         due("back(1)", t.back(1), NONE);
@@ -166,7 +96,7 @@ public final class PromiseTest {
     }
 
     private static void read() {
-        promise = 4;
+        promise(4);
         FieldTower t = with("modulus 4 11001; modulus 3 1101; let a 4 x; let b 3 11;");
         due("count(4)", t.count(4), 12);
         due("read of a text in place of it", read(t, "modulus 4 11111;"), 0);
@@ -183,7 +113,7 @@ public final class PromiseTest {
     }
 
     private static void syntaxFaults() {
-        promise = 4;
+        promise(4);
         faultOf("", 0, NONE);
         faultOf(" \t\r\n", 0, NONE);
         faultOf("let", 1, 3);
@@ -225,7 +155,7 @@ public final class PromiseTest {
     }
 
     private static void roomFaults() {
-        promise = 4;
+        promise(4);
         StringBuilder eight = new StringBuilder();
         for (char c = 'a'; c < 'i'; c++) {
             eight.append("let ").append(c).append(" 1 1;");
@@ -253,7 +183,7 @@ public final class PromiseTest {
     }
 
     private static void senseFaults() {
-        promise = 4;
+        promise(4);
         faultOf("let a 4 x; let a 4 x;", 3, 15);
         faultOf("let a 4 b;", 4, 8);
         faultOf("let a 4 a;", 4, 8);
@@ -286,7 +216,7 @@ public final class PromiseTest {
     }
 
     private static void zeroFaults() {
-        promise = 4;
+        promise(4);
         faultOf("let a 4 1/0;", 7, 9);
         faultOf("let a 4 1/(x+x);", 7, 9);
         faultOf("let a 4 0/x;", 0, NONE);
@@ -313,7 +243,7 @@ public final class PromiseTest {
     }
 
     private static void workedOut() {
-        promise = 4;
+        promise(4);
         FieldTower t = with("let a 4 x + x^2*x; let b 4 (x+1)/x; let c 4 x^0; let d 4 0^0; let e 4 0^5;"
                 + "let f 4 x/x*x; let g 4 x/(x*x); let h 12 b*b;");
         int[] want = {10, 8, 1, 1, 0, 2, 9};
@@ -337,7 +267,7 @@ public final class PromiseTest {
     }
 
     private static void place() {
-        promise = 5;
+        promise(5);
         FieldTower t = new FieldTower();
         due("place()", t.place(), NONE);
         due("read", read(t, "  ?"), 1);
@@ -354,7 +284,7 @@ public final class PromiseTest {
     }
 
     private static void change() {
-        promise = 6;
+        promise(6);
         FieldTower t = with("let a 4 x^4; let b 12 a; let c 4 1/(x^4+x^3+x^2+x+1);");
         due("change(4, 25)", t.change(4, 25), true);
         due("modulus(4)", t.modulus(4), 25);
@@ -385,7 +315,7 @@ public final class PromiseTest {
     }
 
     private static void undo() {
-        promise = 7;
+        promise(7);
         FieldTower t = with("let a 4 x^4; let b 8 a + x^8;");
         int before = t.let(1, 1);
         t.change(4, 25);
@@ -431,7 +361,7 @@ public final class PromiseTest {
     }
 
     private static void modulus() {
-        promise = 8;
+        promise(8);
         FieldTower t = with("modulus 7 10001001;");
         due("modulus(7)", t.modulus(7), 137);
         due("modulus(6)", t.modulus(6), 67);
@@ -442,7 +372,7 @@ public final class PromiseTest {
     }
 
     private static void whole() {
-        promise = 9;
+        promise(9);
         FieldTower t = new FieldTower();
         int[] wholes = {2, 3, 7, 11, 13, 19, 25, 31, 283, 4105, 4179};
         for (int p : wholes) {
@@ -460,7 +390,7 @@ public final class PromiseTest {
     }
 
     private static void next() {
-        promise = 10;
+        promise(10);
         FieldTower t = new FieldTower();
         int[][] rows = {{0, 2}, {1, 2}, {2, 3}, {3, 7}, {4, 7}, {7, 11}, {13, 19}, {31, 37}, {4096, 4105},
             {8190, 8191}, {8191, NONE}, {8192, NONE}, {GREATEST, NONE}, {-1, NONE}, {LOWEST, NONE}};
@@ -470,7 +400,7 @@ public final class PromiseTest {
     }
 
     private static void wholes() {
-        promise = 11;
+        promise(11);
         FieldTower t = new FieldTower();
         for (int n = 1; n <= 12; n++) {
             int many = 0;
@@ -486,7 +416,7 @@ public final class PromiseTest {
     }
 
     private static void both() {
-        promise = 12;
+        promise(12);
         FieldTower t = new FieldTower();
         due("a product that is known", t.both(8, 0x57, 0x83, 1), 0xc1);
         due("two inverses", t.both(8, 0x53, 0xca, 1), 1);
@@ -508,7 +438,7 @@ public final class PromiseTest {
     }
 
     private static void power() {
-        promise = 13;
+        promise(13);
         FieldTower t = new FieldTower();
         due("x to the 8", t.power(8, 2, 8), 27);
         due("3 to the 255", t.power(8, 3, 255), 1);
@@ -527,7 +457,7 @@ public final class PromiseTest {
     }
 
     private static void element() {
-        promise = 14;
+        promise(14);
         FieldTower t = new FieldTower();
         int[] aes = {0xca, t.power(8, 0x53, 128)};
         due("INVERSE", t.element(8, 0x53, 0), aes[0]);
@@ -591,7 +521,7 @@ public final class PromiseTest {
     }
 
     private static void raise() {
-        promise = 15;
+        promise(15);
         FieldTower t = new FieldTower();
         for (int round = 0; round < 2; round++) {
             for (int z = 0; z < 4; z++) {
@@ -635,7 +565,7 @@ public final class PromiseTest {
     }
 
     private static void lower() {
-        promise = 16;
+        promise(16);
         FieldTower t = new FieldTower();
         int[][] pairs = {{1, 12}, {2, 12}, {3, 12}, {4, 12}, {6, 12}, {12, 12}, {3, 9}, {5, 10}, {2, 10}, {4, 8}};
         for (int[] pair : pairs) {
@@ -655,7 +585,7 @@ public final class PromiseTest {
     }
 
     private static void down() {
-        promise = 17;
+        promise(17);
         FieldTower t = new FieldTower();
         due("the first call", new FieldTower().down(12, 6, t.raise(6, 12, 2), true), t.both(6, 2, 2, 1));
         due("NORM of 0 in the field 1", t.down(1, 1, 0, true), 0);
@@ -677,7 +607,7 @@ public final class PromiseTest {
     }
 
     private static void least() {
-        promise = 18;
+        promise(18);
         FieldTower t = new FieldTower();
         for (int k = 0; k <= 8; k++) {
             due("over 1 of x is the modulus", t.least(8, 1, 2, k), 283 >> k & 1);
@@ -707,7 +637,7 @@ public final class PromiseTest {
     }
 
     private static void solve() {
-        promise = 19;
+        promise(19);
         FieldTower t = new FieldTower();
         due("how many", t.solve(8, 1, t.both(8, 9, 8, 1), 0), 2);
         due("the least", t.solve(8, 1, t.both(8, 9, 8, 1), 1), 8);
@@ -725,7 +655,7 @@ public final class PromiseTest {
     }
 
     private static void value() {
-        promise = 20;
+        promise(20);
         FieldTower t = new FieldTower();
         due("the modulus at x", t.value(12, 4105, 2), 0);
         due("at 0", t.value(12, 8191, 0), 1);
@@ -740,7 +670,7 @@ public final class PromiseTest {
     }
 
     private static void factor() {
-        promise = 21;
+        promise(21);
         FieldTower t = new FieldTower();
         factors(t, 2, 2);
         factors(t, 3, 3);
@@ -771,7 +701,7 @@ public final class PromiseTest {
     }
 
     private static void period() {
-        promise = 22;
+        promise(22);
         FieldTower t = new FieldTower();
         int[][] rows = {{3, 1}, {5, 2}, {7, 3}, {11, 7}, {19, 15}, {31, 5}, {283, 51}, {285, 255}, {8191, 13},
             {4097, 12}, {4179, 4095}, {4105, 45}, {2, -2}, {6, -2}, {8190, -2}, {1, NONE}, {0, NONE}, {-3, NONE},
@@ -782,7 +712,7 @@ public final class PromiseTest {
     }
 
     private static void coset() {
-        promise = 23;
+        promise(23);
         FieldTower t = new FieldTower();
         due("least", t.coset(4, 12, 0), 3);
         due("many", t.coset(4, 12, 1), 4);
@@ -804,7 +734,7 @@ public final class PromiseTest {
     }
 
     private static void code() {
-        promise = 24;
+        promise(24);
         FieldTower t = new FieldTower();
         long[] four = {19, 19, 465, 465, 1335};
         for (int i = 1; i <= 5; i++) {
@@ -824,7 +754,7 @@ public final class PromiseTest {
     }
 
     private static void roots() {
-        promise = 25;
+        promise(25);
         FieldTower t = new FieldTower();
         due("cube roots of 1", t.roots(4, 1, 3, 0), 3);
         due("the least", t.roots(4, 1, 3, 1), 1);
@@ -862,7 +792,7 @@ public final class PromiseTest {
     }
 
     private static void field() {
-        promise = 26;
+        promise(26);
         FieldTower t = new FieldTower();
         for (int n = 1; n <= 9; n++) {
             int[] many = new int[3];
@@ -899,7 +829,7 @@ public final class PromiseTest {
     }
 
     private static void written() {
-        promise = 27;
+        promise(27);
         FieldTower t = new FieldTower();
         same(t, 12, 4095, 0, "a^11+a^10+a^9+a^8+a^7+a^6+a^5+a^4+a^3+a^2+a+1");
         same(t, 4, 0, 25, "0");
@@ -925,7 +855,7 @@ public final class PromiseTest {
     }
 
     private static void let() {
-        promise = 28;
+        promise(28);
         FieldTower t = with("let a 2 x; let b 12 a + 1; let c 12 x; let z 6 0;");
         int[][] want = {{2, 2, 2, 2}, {12, t.raise(2, 12, 3), 2, 3}, {12, 2, 12, 2}, {6, 0, 1, 0}};
         for (int i = 0; i < 4; i++) {
@@ -952,7 +882,7 @@ public final class PromiseTest {
     }
 
     private static void hold() {
-        promise = 29;
+        promise(29);
         FieldTower t = with("let a 4 x^4;");
         due("hold(-1)", t.hold(-1), false);
         due("hold(3)", t.hold(3), false);
@@ -972,7 +902,7 @@ public final class PromiseTest {
     }
 
     private static void restore() {
-        promise = 30;
+        promise(30);
         FieldTower t = with("let a 4 x^4; let b 12 a;");
         int before = t.let(1, 1);
         due("restore(0) of nothing", t.restore(0), false);
@@ -1002,7 +932,7 @@ public final class PromiseTest {
     }
 
     private static void count() {
-        promise = 31;
+        promise(31);
         FieldTower t = with("modulus 12 1000001010011; modulus 1 11; let a 4 x; let b 4 a;");
         due("count(0)", t.count(0), 2);
         put(t, "let a");
