@@ -918,7 +918,7 @@ public final class FieldTower {
             }
             int step = leastPrimitive();
             int at = 1;
-            for (int k = 0; k < length; k++) {
+            for (int k = 0; k < length && at >= 0 && at < logarithms.length; k++) {
                 logarithms[at] = k;
                 at = field.times(at, step);
             }
