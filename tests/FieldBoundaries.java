@@ -738,6 +738,7 @@ final class FieldBoundaries extends Cases {
                 }
             }
             noSuchElement("down to 1", (n, a) -> t.down(n, 1, a, norm));
+            t.raise(4, 12, 1);
             int want = t.down(12, 4, 77, norm);
             due("the first call of an object", new FieldTower().down(12, 4, 77, norm), want);
             FieldTower again = changed(12, 4179);
@@ -809,6 +810,7 @@ final class FieldBoundaries extends Cases {
             due("of 1 in " + n + ", x to the 2", t.least(n, 1, 1, 2), NONE);
         }
         for (int i = 0; i <= 3; i++) {
+            t.raise(4, 12, 1);
             int want = t.least(12, 4, 77, i);
             due("the first call of an object", new FieldTower().least(12, 4, 77, i), want);
             FieldTower again = changed(12, 4179);
