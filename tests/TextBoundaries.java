@@ -859,6 +859,14 @@ final class TextBoundaries extends Cases {
         due("as on a new object", stateOf(t), stateOf(with("modulus 3 1101; let c 3 x^3;")));
         due("read() of an empty tape", t.read(), 0);
         due("as a new object", stateOf(t), stateOf(new FieldTower()));
+        // The names of the texts ahead, worked out by the tokens of the last one, would divide by 0.
+        FieldTower u = new FieldTower();
+        for (int i = 0; i < 2; i++) {
+            due("two names", read(u, "let a 8 x; let b 4 x;"), 0);
+        }
+        due("one name", read(u, "let a 8 1+1+1/10011;"), 0);
+        due("as on a new object", stateOf(u), stateOf(with("let a 8 1+1+1/10011;")));
+        due("change(8, 285)", u.change(8, 285), true);
     }
 
     private static void nothingUndoneOrHeld() {
